@@ -725,7 +725,7 @@ public final class MixfixDesk {
         /** Of these, e being a hole, those in which it ends before the word mid. */
         int waysThrough(int o, int e, int start, int mid) {
             int rest = ways[way(o, e + 1, mid)];
-            if (rest == 0 || e == rules.size(o) - 1) {
+            if (e == rules.size(o) - 1) {
                 return rest == 0 ? 0 : ways[way(o, e, start)];
             }
             int span = span(start, mid);
