@@ -2,7 +2,7 @@
 public final class PromiseTest {
     private static final Check CHECK = new Check();
     private static final int MANY = 1000000000;
-    private static final int[] FAR = {Integer.MIN_VALUE, -1000, Integer.MAX_VALUE, Integer.MAX_VALUE - 1, 1000};
+    private static final int[] FAR = Desks.FAR;
 
     public static void main(String[] args) {
         promise1NewObject();
@@ -32,28 +32,6 @@ public final class PromiseTest {
 
     private static void due(String call, long got, long want) {
         CHECK.due(call, got, want);
-    }
-
-    /** Nodes 0 > 1, with _ + _ (left) 0, _ * _ (left) 1, - _ 2, [ _ ] 3. */
-    private static MixfixDesk sums() {
-        MixfixDesk desk = new MixfixDesk();
-        desk.node();
-        desk.node();
-        desk.arrow(0, 1);
-        Check.operator(desk, "_ + _", 0, 1);
-        Check.operator(desk, "_ * _", 1, 1);
-        Check.operator(desk, "- _", 1, 0);
-        Check.operator(desk, "[ _ ]", 0, 0);
-        return desk;
-    }
-
-    /** Prefix operators - _ and - - _ : the rows - .. - x have trees as Fibonacci tells. */
-    private static MixfixDesk minuses() {
-        MixfixDesk desk = new MixfixDesk();
-        desk.node();
-        Check.operator(desk, "- _", 0, 0);
-        Check.operator(desk, "- - _", 0, 0);
-        return desk;
     }
 
     private static void promise1NewObject() {
@@ -138,7 +116,7 @@ public final class PromiseTest {
     }
 
     private static void promise5Cut() {
-        MixfixDesk desk = sums();
+        MixfixDesk desk = Desks.sums();
         due("5 no such node", desk.cut(0, 2), -1);
         due("5 no such node", desk.cut(2, 0), -1);
         for (int k : FAR) {
@@ -233,7 +211,7 @@ public final class PromiseTest {
     }
 
     private static void promise8Clear() {
-        MixfixDesk desk = sums();
+        MixfixDesk desk = Desks.sums();
         Check.parse(desk, "x + y");
         desk.take(0);
         desk.write();
@@ -256,7 +234,7 @@ public final class PromiseTest {
     }
 
     private static void promise9Parse() {
-        MixfixDesk desk = sums();
+        MixfixDesk desk = Desks.sums();
         due("9 one", Check.parse(desk, "x + y * z + - - a"), 1);
         due("9 left takes no prefix last", Check.parse(desk, "x * - a"), 0);
         due("9 none", Check.parse(desk, "x y"), 0);
@@ -266,7 +244,7 @@ public final class PromiseTest {
         due("9 _ in a hole is none", Check.parse(desk, "x + _"), 0);
         due("9 inner holes take all", Check.parse(desk, "[ x + y ] * [ [ - x ] ]"), 1);
         due("9 empty closed", Check.parse(desk, "[ ]"), 0);
-        MixfixDesk fib = minuses();
+        MixfixDesk fib = Desks.minuses();
         int before = 1;
         int now = 1;
         for (int k = 1; k < 40; k++) {
@@ -282,7 +260,7 @@ public final class PromiseTest {
     }
 
     private static void promise9Texts() {
-        MixfixDesk desk = minuses();
+        MixfixDesk desk = Desks.minuses();
         due("9 forty", Check.parse(desk, "-  ".repeat(39) + "x"), 102334155);
         due("9 more than forty", Check.parse(desk, "- ".repeat(40) + "x"), -4);
         due("9 refusals change nothing", desk.count(3), 40);
@@ -301,7 +279,7 @@ public final class PromiseTest {
     }
 
     private static void promise10Count() {
-        MixfixDesk desk = sums();
+        MixfixDesk desk = Desks.sums();
         due("10 nodes", desk.count(0), 2);
         due("10 operators", desk.count(1), 4);
         due("10 arrows", desk.count(2), 1);
@@ -320,7 +298,7 @@ public final class PromiseTest {
     }
 
     private static void promise11Trees() {
-        MixfixDesk desk = minuses();
+        MixfixDesk desk = Desks.minuses();
         due("11 nothing parsed before no such words", desk.trees(-1, 0), -3);
         Check.parse(desk, "- - - - - x");
         due("11 all", desk.trees(0, 6), 8);
@@ -343,7 +321,7 @@ public final class PromiseTest {
     }
 
     private static void promise12With() {
-        MixfixDesk desk = minuses();
+        MixfixDesk desk = Desks.minuses();
         due("12 nothing parsed first", desk.with(-1, 0, 9), -3);
         Check.parse(desk, "- - - - - x");
         due("12 with 0", desk.with(0, 6, 0), 5);
@@ -364,7 +342,7 @@ public final class PromiseTest {
     }
 
     private static void promise13Take() {
-        MixfixDesk desk = minuses();
+        MixfixDesk desk = Desks.minuses();
         due("13 nothing parsed", desk.take(-1), -3);
         Check.parse(desk, "- - - x");
         due("13 the first", desk.take(0), 3);
@@ -386,7 +364,7 @@ public final class PromiseTest {
     }
 
     private static void promise14Item() {
-        MixfixDesk desk = sums();
+        MixfixDesk desk = Desks.sums();
         due("14 nothing is", desk.item(-1, 9), -3);
         Check.parse(desk, "x + [ y * z ]");
         due("14 nothing is taken up yet", desk.item(0, 0), -3);
@@ -405,7 +383,7 @@ public final class PromiseTest {
             due("14 far", desk.item(k, 1), -1);
             due("14 far what", desk.item(0, k), -2);
         }
-        MixfixDesk deep = minuses();
+        MixfixDesk deep = Desks.minuses();
         Check.parse(deep, "- ".repeat(39) + "x");
         deep.take(0);
         due("14 the deepest", deep.item(39, 3), 39);
@@ -414,7 +392,7 @@ public final class PromiseTest {
     }
 
     private static void promise15Write() {
-        MixfixDesk desk = sums();
+        MixfixDesk desk = Desks.sums();
         due("15 nothing is", desk.write(), -3);
         Check.parse(desk, "  x +  [ - abcdefgh ] + y");
         due("15 parsed only", desk.write(), -3);
@@ -441,7 +419,7 @@ public final class PromiseTest {
     }
 
     private static void promise16Octet() {
-        MixfixDesk desk = sums();
+        MixfixDesk desk = Desks.sums();
         Check.parse(desk, "x + y");
         desk.take(0);
         due("16 taken up, not written", desk.octet(0), -1);
@@ -465,7 +443,7 @@ public final class PromiseTest {
     }
 
     private static void promise17Number() {
-        MixfixDesk desk = minuses();
+        MixfixDesk desk = Desks.minuses();
         Check.parse(desk, "- - x");
         desk.take(1);
         due("17 0", Check.number(desk, "( - ( - ( - x ) ) )"), 0);
@@ -491,7 +469,7 @@ public final class PromiseTest {
     }
 
     private static void promise17Refusals() {
-        MixfixDesk desk = sums();
+        MixfixDesk desk = Desks.sums();
         String[] none = {"", "  ", "+", "_", "x y", "( x )", "( )", "(", ")", ") (", "( x + y", "x + y )", "x + y",
             "( x + y ) )", "( ( x + y )", "( x + y + z )", "( x + + )", "( + y )", "( ( x ) + y )", "( x + _ )",
             "( x + abcdefghi )", "( x + y ) z", "( x\t+ y )", "( ( x + y ) ( x + y ) )", "( [ ] )"};
@@ -513,7 +491,7 @@ public final class PromiseTest {
         due("17 deep and long", Check.number(desk, "( - ".repeat(249) + "x" + " )".repeat(249)), -4);
         Check.operator(desk, "_ ( _ x", 0, 0);
         due("17 a part ( comes first", Check.number(desk, "\t"), -3);
-        MixfixDesk shut = sums();
+        MixfixDesk shut = Desks.sums();
         Check.operator(shut, "_ )", 0, 0);
         due("17 a part ) comes first", Check.number(shut, "x"), -3);
         shut.clear();
@@ -551,7 +529,7 @@ public final class PromiseTest {
 
     private static void whatStaysAndGoes() {
         for (int change = 0; change < 4; change++) {
-            MixfixDesk desk = sums();
+            MixfixDesk desk = Desks.sums();
             Check.parse(desk, "x + y");
             desk.take(0);
             desk.arrow(0, 1);
