@@ -9,7 +9,11 @@ final class Cases {
     void of(String told, Runnable test) {
         sentence = told;
         asked = 0;
-        test.run();
+        try {
+            test.run();
+        } catch (RuntimeException thrown) {
+            due("a call", thrown.toString(), "an answer");
+        }
         check.holds(told + " has a test", asked > 0);
     }
 

@@ -30,6 +30,15 @@ public final class NumberBoundaryTest {
             due("an OPERATOR of one PART", Check.number(closed, "( end )"), 0);
             due("is no ATOM", Check.number(closed, "end"), -5);
         });
+        CASES.of("17: which number it has among those of its WORDS (without these two)", () -> {
+            MixfixDesk desk = Desks.minuses();
+            Check.parse(desk, "- - - - - x");
+            for (int k = 0; k < 8; k++) {
+                desk.take(k);
+                desk.write();
+                due("tree " + k, Check.number(desk, Check.written(desk)), k);
+            }
+        });
         CASES.of("17: (blanks more than one, also at the ends, may be)", () -> {
             due("between", Check.number(Desks.minuses(), "(   -  -     x  )"), 1);
             due("before", Check.number(Desks.minuses(), "   ( - - x )"), 1);

@@ -7,6 +7,7 @@ public final class TermsTest {
     private static final String[] INNER = {"b _ b", "b _", "_ b", "_ b _", "_ b _", "_ b _"};
 
     public static void main(String[] args) {
+        calls();
         words();
         nodes();
         operators();
@@ -15,11 +16,28 @@ public final class TermsTest {
         outerHoles();
         order();
         writing();
+        answers();
         CASES.end();
     }
 
     private static void due(String call, long got, long want) {
         CASES.due(call, got, want);
+    }
+
+    private static void calls() {
+        CASES.of("An object is used for at most 512 calls after it has been made", () -> {
+            MixfixDesk desk = Desks.minuses();
+            Check.text(desk, "- ".repeat(39) + "x");
+            int made = 7 + 11;
+            while (made < 510) {
+                due("parse as call " + (made + 1), desk.parse(), 102334155);
+                due("take as call " + (made + 2), desk.take(102334154), 20);
+                due("write as call " + (made + 3), desk.write(), 79 + 20 * 4);
+                made += 3;
+            }
+            due("call " + (made + 1), desk.octet(0), '(');
+            due("call " + (made + 2), desk.count(3), 40);
+        });
     }
 
     private static void words() {
@@ -74,6 +92,19 @@ public final class TermsTest {
     }
 
     private static void nodes() {
+        CASES.of("NODES are numbered from 0, 16 at most", () -> {
+            due("the first", new MixfixDesk().node(), 0);
+            due("the 16th", Desks.nodes(15).node(), 15);
+            due("the 17th", Desks.nodes(16).node(), -4);
+        });
+        CASES.of("there is no ring of ARROWS", () -> {
+            MixfixDesk desk = Desks.nodes(3);
+            due("of one", desk.arrow(2, 2), -3);
+            due("0 > 1", desk.arrow(0, 1), 1);
+            due("of two", desk.arrow(1, 0), -3);
+            due("1 > 2", desk.arrow(1, 2), 1);
+            due("of three", desk.arrow(2, 0), -3);
+        });
         CASES.of("An ARROW a > b tells that NODE b is tighter than a (that, and nothing of others that follow)", () -> {
             MixfixDesk desk = Desks.nodes(3);
             desk.arrow(0, 1);
@@ -94,6 +125,42 @@ public final class TermsTest {
     }
 
     private static void operators() {
+        CASES.of("AN OPERATOR is a row of 1 to 9 ELEMENTS", () -> {
+            int[] sizes = {0, 1, 2, 8, 9, 10, 11, 40, 41};
+            int[] answers = {-5, 0, 0, 0, 0, -5, -5, -5, -5};
+            for (int k = 0; k < sizes.length; k++) {
+                due("PARTS: " + sizes[k], Check.operator(Desks.nodes(1), "a ".repeat(sizes[k]), 0, 0), answers[k]);
+            }
+        });
+        CASES.of("HOLES (the WORD _ ), no two HOLES side by side, one PART at least", () -> {
+            String[] rows = {"_", "_ _", "_ _ a", "a _ _", "a _ _ a", "_ a", "a _", "_ a _", "a _ a", "__", "_a", "a_ _"};
+            int[] answers = {-5, -5, -5, -5, -5, 0, 0, 0, 0, 0, 0, 0};
+            int[] holes = {-1, -1, -1, -1, -1, 1, 1, 2, 1, 0, 0, 1};
+            for (int k = 0; k < rows.length; k++) {
+                MixfixDesk desk = Desks.nodes(1);
+                due(rows[k], Check.operator(desk, rows[k], 0, 0), answers[k]);
+                due("HOLES of " + rows[k], desk.about(0, 2), holes[k]);
+            }
+        });
+        CASES.of("It is CLOSED if it has a HOLE neither first nor last, PREFIX if last alone, POSTFIX if first alone, INFIX "
+                + "if both.", () -> {
+            String[] rows = {"a", "a _ b", "a b", "a _", "a _ b _", "a b _", "_ a", "_ a _ b", "_ a b", "_ a _", "_ a _ b _"};
+            int[] kinds = {0, 0, 0, 1, 1, 1, 2, 2, 2, 3, 3};
+            for (int k = 0; k < rows.length; k++) {
+                for (int way = 0; way < 3; way++) {
+                    MixfixDesk desk = Desks.nodes(1);
+                    Check.operator(desk, rows[k], 0, way);
+                    due(rows[k], desk.about(0, 4), kinds[k]);
+                }
+            }
+        });
+        CASES.of("They are numbered from 0, 30 at most.", () -> {
+            due("the first", Check.operator(Desks.nodes(1), "a", 0, 0), 0);
+            MixfixDesk desk = Desks.thirty();
+            due("30 are there", desk.count(1), 30);
+            due("the 31st", Check.operator(desk, "a", 0, 0), -4);
+            due("the last is 29", desk.about(29, 0), 0);
+        });
         CASES.of("(LEFT and RIGHT count for INFIX alone.)", () -> {
             for (int way = 0; way < 3; way++) {
                 for (int other = 0; other < 3; other++) {
@@ -136,6 +203,24 @@ public final class TermsTest {
     }
 
     private static void holes() {
+        CASES.of("A TREE of a row of WORDS is: of one WORD that is an ATOM, itself", () -> {
+            due("one", Check.parse(new MixfixDesk(), "x"), 1);
+            due("two are none", Check.parse(new MixfixDesk(), "x x"), 0);
+            due("forty are none", Check.parse(new MixfixDesk(), "x ".repeat(40)), 0);
+        });
+        CASES.of("or an OPERATOR, the WORDS being its ELEMENTS in order: a PART itself", () -> {
+            MixfixDesk desk = Desks.nodes(1);
+            Check.operator(desk, "a b c d e f g h i", 0, 0);
+            Check.operator(desk, "if _ then _", 0, 0);
+            due("nine PARTS", Check.parse(desk, "a b c d e f g h i"), 1);
+            due("eight of them", Check.parse(desk, "a b c d e f g h"), 0);
+            due("one more", Check.parse(desk, "a b c d e f g h i i"), 0);
+            due("in another order", Check.parse(desk, "a b c d e f g i h"), 0);
+            due("with HOLES", Check.parse(desk, "if x then y"), 1);
+            due("in another order", Check.parse(desk, "then x if y"), 0);
+            due("the first PART is missing", Check.parse(desk, "x then y"), 0);
+            due("the last HOLE is missing", Check.parse(desk, "if x then"), 0);
+        });
         CASES.of("a HOLE one WORD at least", () -> {
             for (String row : new String[] {"+", "x +", "+ x", "-", "[ ]", "x + [ ]", "- [ ]", "x * - "}) {
                 due(row, Check.parse(Desks.sums(), row), 0);
@@ -165,6 +250,11 @@ public final class TermsTest {
                     due("of a PREFIX " + inner, Check.number(desk, "( [ " + inner + " ] x )"), 0);
                 }
             }
+            MixfixDesk minuses = Desks.minuses();
+            Check.operator(minuses, "[ _ ]", 0, 0);
+            Check.operator(minuses, "_ [ _ ]", 0, 0);
+            inOrder(minuses, "[ - - x ]", "( [ ( - ( - x ) ) ] )", "( [ ( - - x ) ] )");
+            inOrder(minuses, "y [ - - x ]", "( y [ ( - ( - x ) ) ] )", "( y [ ( - - x ) ] )");
         });
     }
 
@@ -298,6 +388,48 @@ public final class TermsTest {
             inOrder(desk, "end", "( end )");
             inOrder(desk, "[ end ]", "( [ ( end ) ] )");
             inOrder(desk, "x * [ end ] + - y", "( ( x * ( [ ( end ) ] ) ) + ( - y ) )");
+        });
+    }
+
+    private static void answers() {
+        CASES.of("ANSWERS below 0 are refusals and change nothing", () -> {
+            CASES.refused("feed", -2, desk -> desk.feed(0L, 9));
+            CASES.refused("arrow to none", -1, desk -> desk.arrow(0, 2));
+            CASES.refused("arrow in a ring", -3, desk -> desk.arrow(1, 0));
+            CASES.refused("cut", -1, desk -> desk.cut(2, 0));
+            CASES.refusedText("new", -1, desk -> desk.operator(2, 0));
+            CASES.refusedText("new", -2, desk -> desk.operator(0, 3));
+            CASES.refusedText("_", -5, desk -> desk.operator(0, 0));
+            CASES.refusedText("_ + _", -6, desk -> desk.operator(0, 0));
+            CASES.refusedText("\t", -5, MixfixDesk::parse);
+            CASES.refusedText("x ".repeat(41), -4, MixfixDesk::parse);
+            CASES.refusedText("", -2, MixfixDesk::parse);
+            CASES.refused("take", -1, desk -> desk.take(1));
+            CASES.refusedText("x y", -5, MixfixDesk::number);
+            CASES.refusedText("( - ".repeat(40) + "x" + " )".repeat(40), -4, MixfixDesk::number);
+            CASES.refusedText("( x + ( x + x ) )", -6, MixfixDesk::number);
+        });
+        CASES.of("of several that which the call names first", () -> {
+            MixfixDesk full = Desks.thirty();
+            due("operator: -1, not -2, -5, -4", Check.operator(full, "_", 1, 3), -1);
+            due("operator: -2, not -5, -4", Check.operator(full, "_", 0, 3), -2);
+            due("operator: -2, not -6, -4", Check.operator(full, "op0 _", 0, 3), -2);
+            due("operator: -5, not -4", Check.operator(full, "\t", 0, 0), -5);
+            due("operator: -6, not -4", Check.operator(full, "op0 _", 0, 0), -6);
+            due("arrow: -1, not -3", full.arrow(1, 1), -1);
+            due("about: -1, not -2", full.about(30, 5), -1);
+            due("parse: -5, not -4", Check.parse(full, "x ".repeat(41) + "\t"), -5);
+            due("trees: -3, not -1", full.trees(-1, 0), -3);
+            due("with: -3, not -1", full.with(-1, 0, 30), -3);
+            due("take: -3, not -1", full.take(-1), -3);
+            due("item: -3, not -1, -2", full.item(-1, 4), -3);
+            MixfixDesk busy = Desks.busy();
+            due("item: -1, not -2", busy.item(5, 4), -1);
+            due("number: -5, not -4", Check.number(busy, "( - ".repeat(41) + "x"), -5);
+            due("number: -5, not -6", Check.number(busy, "( x + ( x + x ) ) )"), -5);
+            due("number: -4, not -6", Check.number(busy, "( x + ".repeat(20) + "x" + " )".repeat(20)), -4);
+            Check.operator(busy, "( _ )", 0, 0);
+            due("number: -3, not -5", Check.number(busy, "\t"), -3);
         });
     }
 }

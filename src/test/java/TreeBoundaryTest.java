@@ -35,6 +35,14 @@ public final class TreeBoundaryTest {
             due("then forty", Check.parse(desk, "- ".repeat(39) + "x"), 102334155);
             due("then one again", Check.parse(desk, "- x"), 1);
         });
+        CASES.of("9: (1000000000: MANY)", () -> {
+            MixfixDesk desk = Desks.minuses();
+            Check.operator(desk, "- - - _", 0, 0);
+            due("fewer", Check.parse(desk, "- ".repeat(34) + "x"), 615693474);
+            for (int words = 36; words <= 40; words++) {
+                due("MANY", Check.parse(desk, "- ".repeat(words - 1) + "x"), 1000000000);
+            }
+        });
         CASES.of("9: -5 THE TEXT is WRONG", () -> {
             for (String text : new String[] {"abcdefghi", "x + abcdefghi", "abcdefghi + x", "x +\ty", "\u0000", "x \u007f",
                 "\u0080 x", "x \u00ff y", "x\n", "\u001f"}) {
@@ -185,6 +193,10 @@ public final class TreeBoundaryTest {
             due("ATOMS, one word", desk.with(5, 1, -1), 1);
             due("ATOMS, a part", desk.with(4, 1, -1), 0);
             due("ATOMS, two words", desk.with(4, 2, -1), 0);
+            Check.parse(desk, "x y - z");
+            due("ATOMS, one of two words", desk.with(0, 1, -1), 1);
+            due("ATOMS, two of them side by side", desk.with(0, 2, -1), 0);
+            due("ATOMS, all words", desk.with(0, 4, -1), 0);
             MixfixDesk most = Desks.thirty();
             Check.parse(most, "op29 op0 _");
             due("_ is none", most.with(2, 1, -1), 0);
@@ -284,7 +296,8 @@ public final class TreeBoundaryTest {
     }
 
     private static void item() {
-        CASES.of("14: its ATOMS and OPERATORS being numbered from outside to inside, from the left", () -> {
+        CASES.of("14: its ATOMS and OPERATORS being numbered from outside to inside, from the left (an OPERATOR, then all in "
+                + "its first HOLE, and so on)", () -> {
             MixfixDesk desk = Desks.sums();
             Check.parse(desk, "[ x * y ] + - z");
             desk.take(0);
@@ -387,6 +400,11 @@ public final class TreeBoundaryTest {
             CASES.refusedBy("take was refused", -3, desk, MixfixDesk::write);
             desk.clear();
             CASES.refusedBy("what was parsed is gone", -3, desk, MixfixDesk::write);
+            MixfixDesk other = Desks.minuses();
+            written(other, "- - x", "( - ( - x ) )");
+            other.take(1);
+            other.parse();
+            CASES.refusedBy("another was taken up before", -3, other, MixfixDesk::write);
         });
     }
 
