@@ -50,9 +50,15 @@ public final class FaceTest {
             CHECK.holds(inside + " is static", Modifier.isStatic(inside.getModifiers()));
             for (Method method : inside.getDeclaredMethods()) {
                 CHECK.holds(method + " has a name of its own", !names.contains(method.getName()));
+                CHECK.holds(method + " takes at most seven", method.getParameterCount() <= 7);
             }
+            CHECK.holds(inside + " has some twenty fields at most", fields(inside) <= 20);
         }
         CHECK.holds("some twelve classes", MixfixDesk.class.getDeclaredClasses().length < 12);
+    }
+
+    private static long fields(Class<?> inside) {
+        return Arrays.stream(inside.getDeclaredFields()).filter(field -> !Modifier.isStatic(field.getModifiers())).count();
     }
 
     private static void sourceKeepsRules(String source) {

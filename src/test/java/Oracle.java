@@ -235,6 +235,46 @@ final class Oracle {
         return sum;
     }
 
+    /** Tree k among those that hole e of operator o takes (o < 0: among all); there must be one. */
+    Tree numbered(BigInteger k, int first, int count, int o, int e) {
+        BigInteger left = k;
+        for (int p = -1; p < ops.size(); p++) {
+            BigInteger those = o < 0 || takes(o, e, p) ? countWith(first, count, p) : BigInteger.ZERO;
+            if (left.compareTo(those) < 0) {
+                return p < 0 ? new Tree(-1, first, 1, List.of()) : numberedWith(left, p, first, count);
+            }
+            left = left.subtract(those);
+        }
+        throw new IllegalArgumentException("there is no tree " + k);
+    }
+
+    private Tree numberedWith(BigInteger k, int o, int first, int count) {
+        List<Tree> kids = new ArrayList<>();
+        BigInteger left = k;
+        int at = first;
+        for (int e = 0; e < ops.get(o).size(); e++) {
+            int stop = at + 1;
+            if (ops.get(o).hole(e)) {
+                BigInteger those = through(o, e, at, stop, first + count);
+                while (left.compareTo(those) >= 0) {
+                    left = left.subtract(those);
+                    stop++;
+                    those = through(o, e, at, stop, first + count);
+                }
+                BigInteger[] parts = left.divideAndRemainder(ways(o, e + 1, stop, first + count));
+                kids.add(numbered(parts[0], at, stop - at, o, e));
+                left = parts[1];
+            }
+            at = stop;
+        }
+        return new Tree(o, first, count, kids);
+    }
+
+    private BigInteger through(int o, int e, int at, int stop, int end) {
+        BigInteger rest = ways(o, e + 1, stop, end);
+        return rest.signum() == 0 ? rest : rest.multiply(fitting(o, e, at, stop - at));
+    }
+
     // ---- written trees
 
     String written(Tree tree) {
